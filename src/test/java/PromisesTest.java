@@ -258,6 +258,7 @@ public final class PromisesTest {
         due("8: starts(0, 9, 18)", x.starts(0, 9, 18), 1);
         due("8: starts(0, 8, 18)", x.starts(0, 8, 18), 2);
         due("8: starts(0, 18, 8)", x.starts(0, 18, 8), 0);
+        due("8: starts(0, LAST, 0)", x.starts(0, LAST, 0), 0);
         due("8: starts(0, 0, LAST)", x.starts(0, 0, LAST), 100000000);
         due("8: starts(0, LAST - 2, LAST)", x.starts(0, LAST - 2, LAST), 1);
         due("8: starts(0, -1, 8)", x.starts(0, -1, 8), StrictOffsets.BAD_TIME);
@@ -311,6 +312,10 @@ public final class PromisesTest {
         due("10: room(18)", x.room(18), 4);
         due("10: room changed nothing", x.load(), 60);
 
+        StrictOffsets first = new StrictOffsets();
+        due("10: admitAt(12, 2, 10)", first.admitAt(12, 2, 10), 0);
+        due("10: room(12), best at offset 0 alone", first.room(12), 10);
+
         StrictOffsets full = tenJobs();
         due("10: room(20) with ten jobs", full.room(20), 10);
         due("10: room(7) with ten jobs", full.room(7), StrictOffsets.BAD_PERIOD);
@@ -345,6 +350,6 @@ public final class PromisesTest {
         due("12: starts(1, 5, 4)", x.starts(1, 5, 4), StrictOffsets.NO_JOB);
         due("12: starts(0, 5, -1)", x.starts(0, 5, -1), StrictOffsets.BAD_TIME);
         due("12: starts(0, LAST + 1, 5)", x.starts(0, LAST + 1, 5), StrictOffsets.BAD_TIME);
-        due("12: starts(0, 5, 4)", x.starts(0, 5, 4), 0);
+        due("12: starts(0, 50, 4)", x.starts(0, 50, 4), 0);
     }
 }
