@@ -3,9 +3,6 @@ public final class PromisesTest {
     private static final int LAST = 1000000000;
     private static final int MIN = Integer.MIN_VALUE;
     private static final int MAX = Integer.MAX_VALUE;
-    private static final int[] PERIODS = {
-        2, 3, 4, 5, 6, 8, 9, 10, 12, 15, 18, 20, 24, 30, 36, 40, 45, 60, 72, 90, 120, 180, 360
-    };
 
     private static final Due DUE = new Due("PromisesTest");
 
@@ -88,20 +85,11 @@ public final class PromisesTest {
         due("2: the refused call changed nothing", whole.offset(1), StrictOffsets.NO_JOB);
     }
 
-    private static boolean isPeriod(int number) {
-        for (int period : PERIODS) {
-            if (period == number) {
-                return true;
-            }
-        }
-        return false;
-    }
-
     private static void promise2AdmitOrder() {
         for (int p = -361; p <= 721; p++) {
-            due("2: admit(" + p + ", 1)", new StrictOffsets().admit(p, 1), isPeriod(p) ? 0 : StrictOffsets.BAD_PERIOD);
-            due("3: admitAt(" + p + ", 1, 0)", new StrictOffsets().admitAt(p, 1, 0), isPeriod(p) ? 0 : StrictOffsets.BAD_PERIOD);
-            due("10: room(" + p + ")", new StrictOffsets().room(p), isPeriod(p) ? p : StrictOffsets.BAD_PERIOD);
+            due("2: admit(" + p + ", 1)", new StrictOffsets().admit(p, 1), Boundaries.isPeriod(p) ? 0 : StrictOffsets.BAD_PERIOD);
+            due("3: admitAt(" + p + ", 1, 0)", new StrictOffsets().admitAt(p, 1, 0), Boundaries.isPeriod(p) ? 0 : StrictOffsets.BAD_PERIOD);
+            due("10: room(" + p + ")", new StrictOffsets().room(p), Boundaries.isPeriod(p) ? p : StrictOffsets.BAD_PERIOD);
         }
         StrictOffsets x = new StrictOffsets();
         due("2: admit(MIN, 1)", x.admit(MIN, 1), StrictOffsets.BAD_PERIOD);
